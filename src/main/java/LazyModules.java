@@ -820,25 +820,19 @@ public final class LazyModules {
         }
         boolean settled = true;
         for (int pass = 0; pass <= CELLS && settled; pass++) {
-            settled = settleSome();
-        }
-    }
-
-    private boolean settleSome() {
-        boolean settled = false;
-        for (int f = 0; f < FUNCTIONS; f++) {
-            for (int x = 0; x < width; x++) {
-                for (int n = 0; n < size[f]; n++) {
-                    int node = f * NODE_LIMIT + n;
-                    int cell = node * WIDEST + x;
-                    if (status[cell] == LOOP) {
-                        settle(node, x);
-                        settled |= status[cell] != LOOP;
-                    }
+            settled = false;
+            for (int cell = 0; cell < CELLS; cell++) {
+                if (status[cell] == LOOP && isInUse(cell)) {
+                    settle(cell / WIDEST, cell % WIDEST);
+                    settled |= status[cell] != LOOP;
                 }
             }
         }
-        return settled;
+    }
+
+    private boolean isInUse(int cell) {
+        int node = cell / WIDEST;
+        return cell % WIDEST < width && node % NODE_LIMIT < size[node / NODE_LIMIT];
     }
 
     private void settle(int node, int x) {

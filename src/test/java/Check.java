@@ -1,7 +1,3 @@
-import java.io.IOException;
-import java.nio.file.Files;
-import java.nio.file.Path;
-
 /** What the tests of the project share: counting wrong answers and putting texts. */
 final class Check {
     private int wrong = 0;
@@ -73,13 +69,5 @@ final class Check {
         LazyModules program = loaded(6, "A=" + expression + ";");
         due("look, A=" + expression + " at " + x, program.look(0, x), status);
         due("value, A=" + expression + " at " + x, program.value(0, x), value);
-    }
-
-    static String source() {
-        try {
-            return Files.readString(Path.of("src/main/java/LazyModules.java"));
-        } catch (IOException e) {
-            throw new IllegalStateException("run the tests from the project's root", e);
-        }
     }
 }
