@@ -816,7 +816,6 @@ public final class LazyModules {
     private void findOutcomes() {
         for (int cell = 0; cell < CELLS; cell++) {
             status[cell] = LOOP;
-            result[cell] = 0;
         }
         boolean settled = true;
         for (int pass = 0; pass <= CELLS && settled; pass++) {

@@ -102,6 +102,10 @@ public final class KindTest {
         clash("A=if 1 then 1 else 2;", 2);
         clash("A=if yes then 1 else nil;", 2);
         clash("A=try 1 else no;", 2);
+        clash("A=1+(if yes then nil else 1);", 3);
+        clash("A=1+(if yes then 1 else nil);", 5);
+        clash("A=1+(try nil else 1);", 3);
+        clash("A=1+(try 1 else nil);", 5);
     }
 
     private static void demandsAcrossDefs() {

@@ -7,6 +7,7 @@ public final class LoadTest {
         tokensWithoutBlanks();
         syntaxFindings();
         syntaxOfUnwholeModules();
+        nothingIsLeftOfUnwholeModules();
         defFindings();
         unknownCalls();
         orderOfFindings();
@@ -21,6 +22,8 @@ public final class LoadTest {
             check.refused("A=x" + c + ";", LazyModules.SCAN, 3);
         }
         check.refused("A=xx;", LazyModules.SCAN, 2);
+        check.refused("A=xa;", LazyModules.SCAN, 2);
+        check.refused("A=xz;", LazyModules.SCAN, 2);
         check.refused("A= iff;", LazyModules.SCAN, 3);
         check.refused("A=nilx;", LazyModules.SCAN, 2);
         check.refused("A=thens;", LazyModules.SCAN, 2);
@@ -100,6 +103,18 @@ public final class LoadTest {
         check.refused("A=" + "-".repeat(198), LazyModules.SYNTAX, 200);
         check.refused("A=" + "1+".repeat(99), LazyModules.SYNTAX, 200);
         check.refused("A=" + "if ".repeat(66), LazyModules.SYNTAX, 200);
+    }
+
+    private static void nothingIsLeftOfUnwholeModules() {
+        LazyModules program = new LazyModules(2);
+        check.put(program, "A=1:" + "(1+".repeat(65));
+        for (int i = 0; i < 20; i++) {
+            check.due("load of open brackets", program.load(), LazyModules.SYNTAX);
+            check.due("place of open brackets", program.place(), 199);
+        }
+        check.due("wipe", program.wipe(), 199);
+        check.load(program, "A=4-x;");
+        check.cell(program, 0, 1, LazyModules.DONE, 3);
     }
 
     private static void defFindings() {
