@@ -2,12 +2,22 @@
 final class Check {
     private int wrong = 0;
     private int calls = 0;
+    private String sentence = "";
+
+    /** The words of the document that the answers from here on are held to. */
+    void sentence(String words) {
+        sentence = "[" + words + "] ";
+    }
 
     void due(String what, long got, long want) {
+        due(what, "" + got, "" + want);
+    }
+
+    void due(String what, String got, String want) {
         calls++;
-        if (got != want) {
+        if (!got.equals(want)) {
             wrong++;
-            System.out.println(what + " answered " + got + ", due is " + want);
+            System.out.println(sentence + what + " answered " + got + ", due is " + want);
         }
     }
 
@@ -62,6 +72,22 @@ final class Check {
         String at = "(" + f + ", " + x + ")";
         due("look" + at, program.look(f, x), status);
         due("value" + at, program.value(f, x), value);
+    }
+
+    /** What every call that changes nothing answers, but for the characters in the buffer, which no such call tells. */
+    String state(LazyModules program, int width) {
+        StringBuilder all = new StringBuilder("place " + program.place() + ", requests");
+        for (int slot = 0; slot < 3; slot++) {
+            all.append(' ').append(program.pending(slot));
+        }
+        for (int f = 0; f < 5; f++) {
+            all.append(", kind ").append(program.kind(f)).append(':');
+            for (int x = 0; x < width && program.kind(f) != 0; x++) {
+                all.append(' ').append(program.look(f, x)).append('/').append(program.value(f, x));
+                all.append('/').append(program.length(f, x)).append('/').append(program.itemValue(f, x, 0));
+            }
+        }
+        return all.toString();
     }
 
     /** The outcome of one expression, as the cell of A at x with width 6. */

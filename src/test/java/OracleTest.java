@@ -2,7 +2,12 @@ import java.util.Random;
 
 /** All promises: the same calls on the program and on the oracle, over many texts, sound ones and spoilt ones. */
 public final class OracleTest {
-    private static final int RUNS = 500;
+    private static final int RUNS = 1200;
+    private static final int CALL_LIMIT = 512;
+    private static final int CALLS_AFTER_TEXT = 25;
+    private static final int CALLS_AT_END = 95;
+    /** A few more than the buffer holds. */
+    private static final int LONGEST_TEXT = 210;
     private static final String[] KINDS = {"", "INT", "BOOL", "LIST"};
 
     private final Check check;
@@ -49,8 +54,9 @@ public final class OracleTest {
     }
 
     private void run(int[] findings, int[] statuses) {
-        while (calls < 280) {
-            putText();
+        String text = text();
+        while (calls + text.length() + 3 + CALLS_AFTER_TEXT + CALLS_AT_END <= CALL_LIMIT) {
+            putText(text);
             int finding = program.load();
             findings[finding]++;
             note("load", finding, oracle.load());
@@ -58,9 +64,10 @@ public final class OracleTest {
             if (finding != LazyModules.OK) {
                 note("wipe", program.wipe(), oracle.wipe());
             }
-            for (int i = 0; i < 25; i++) {
+            for (int i = 0; i < CALLS_AFTER_TEXT; i++) {
                 someCall();
             }
+            text = text();
         }
         lookAtAll(statuses);
     }
@@ -77,11 +84,10 @@ public final class OracleTest {
         note(call, got ? 1L : 0L, want ? 1L : 0L);
     }
 
-    private void putText() {
-        String text = text();
+    private void putText(String text) {
         history.append("\n  ").append(text);
         for (char c : text.toCharArray()) {
-            check.due("put", program.put(c), oracle.put(c));
+            note("put", program.put(c), oracle.put(c));
         }
     }
 
@@ -143,7 +149,7 @@ public final class OracleTest {
         if (random.nextInt(15) == 0) {
             text.append("E=").append("-".repeat(6 + random.nextInt(4))).append("x;");
         }
-        return text.toString();
+        return text.substring(0, Math.min(text.length(), LONGEST_TEXT));
     }
 
     private void spoil(StringBuilder text) {
