@@ -289,6 +289,17 @@ public final class BoundaryCellTest {
             check.cell(program, 1, 1, STATUS[i], 0);
         }
         check.due("value of what is refused", new LazyModules(2).value(0, 0), 0);
+        // The same expressions but for one token, so that a number is at hand where none must be told.
+        String[] before = {"8/2", "C(5)", "hd(5:nil)", "C(x)"};
+        String[] after = {"8/0", "C(6)", "hd(B(x))", "A(x)"};
+        for (int i = 0; i < STATUS.length; i++) {
+            LazyModules program = check.loaded(6, "A=" + before[i] + ";B=nil;C=x;E=A(x):nil;");
+            check.due("value before", program.value(0, 4), i == 1 || i == 2 ? 5 : 4);
+            check.due("itemValue before", program.itemValue(4, 4, 0), i == 1 || i == 2 ? 5 : 4);
+            check.load(program, "A=" + after[i] + ";");
+            check.cell(program, 0, 4, STATUS[i], 0);
+            item(program, 4, 4, 0, STATUS[i], 0);
+        }
     }
 
     private static void item(LazyModules program, int f, int x, int k, int status, long value) {

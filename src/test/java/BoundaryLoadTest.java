@@ -44,6 +44,7 @@ public final class BoundaryLoadTest {
         defByDef();
         doubleNames();
         largeNodes();
+        largestFunctions();
         largeLinks();
         deepExpressions();
         unknownFunctions();
@@ -144,8 +145,9 @@ public final class BoundaryLoadTest {
         check.sentence("False, changing nothing, if the buffer holds 200 characters");
         LazyModules program = new LazyModules(2);
         check.put(program, "A=x;" + " ".repeat(191) + "B=77;");
-        check.due("the 201st", program.put('1'), false);
-        check.due("the 201st again", program.put(';'), false);
+        check.due("the 201st", program.put(';'), false);
+        check.due("the 201st again", program.put('1'), false);
+        check.due("the 201st, a wrong one", program.put(10), false);
         check.due("load", program.load(), OK);
         check.cell(program, 1, 0, DONE, 77);
         program = new LazyModules(2);
@@ -389,6 +391,25 @@ public final class BoundaryLoadTest {
         check.refused("A=" + eighteen + "x*x*x*x;", LARGE, 0);
         check.refused("A=" + eighteen + "-x*x*x;B=" + eighteen + "-x*x*-x;", LARGE, 27);
         check.refused("A=x;" + "B=" + "x+".repeat(96) + "x;", LARGE, 4);
+        check.refused("A=" + "-".repeat(196) + "x;", LARGE, 0);
+        check.refused("A=" + "x+".repeat(98) + "x;", LARGE, 0);
+    }
+
+    /** Functions as large as they may be lie side by side and leave each other alone, in whatever order they come. */
+    private static void largestFunctions() {
+        check.sentence("LARGE if its expression has more than 24 nodes");
+        String names = "CAEBD";
+        for (int turn = 0; turn < 5; turn++) {
+            LazyModules program = new LazyModules(6);
+            for (int i = 0; i < 5; i++) {
+                char name = names.charAt((turn + 2 * i) % 5);
+                int number = name - 'A' + 1;
+                check.load(program, name + "=" + number + "*x*x+x*x*x+x*x*x+-x*x*" + number + ";");
+            }
+            for (int f = 0; f < 5; f++) {
+                check.cell(program, f, 3, DONE, 54);
+            }
+        }
     }
 
     private static void largeLinks() {
@@ -399,6 +420,10 @@ public final class BoundaryLoadTest {
         check.refused("A=if nul(1:nil) then 2:nil else 3:4:nil;", LARGE, 0);
         check.refused("A=1:2:nil;B=hd(1:2:nil)+hd(3:nil)+hd(4:nil);", LARGE, 10);
         check.refused("A=1:2:3:4:5;", LARGE, 0);
+        LazyModules program = check.loaded(2, "A=1:2:3+0:nil;");
+        check.load(program, "A=1:2:3:nil;");
+        check.refused(program, "A=1:2:3:4:nil;", LARGE, 0);
+        check.load(program, "A=1:2:3:nil;B=1:2:3:nil;");
     }
 
     private static void deepExpressions() {

@@ -34,6 +34,7 @@ public final class BoundaryMeaningTest {
         restingOnLoops();
         notRestingOnLoops();
         kindsOfNodes();
+        kindsOfBranches();
         demandsOfArithmetic();
         demandOfNegation();
         demandsOfEquality();
@@ -229,6 +230,9 @@ public final class BoundaryMeaningTest {
             is("try A(x) else " + b, LOOP, 0);
             is("try 4 else " + b, DONE, 4);
         }
+        is("try hd(nil) else if yes then 3 else 4", DONE, 3);
+        is("try hd(nil) else if no then 3 else 4", DONE, 4);
+        is("try if yes then 1/0 else 4 else 5", DONE, 5);
         is("try no else yes", DONE, 0);
         is("try nil else 1:nil", DONE, 0);
         is("try 0 else 1", DONE, 0);
@@ -352,7 +356,8 @@ public final class BoundaryMeaningTest {
 
     private static void restingOnLoops() {
         check.sentence("and so is every outcome that rests on one");
-        LazyModules program = check.loaded(6, "A=if x=3 then A(3) else A(x+1)+1;B=A(x)*0;C=try B(x) else 0;D=if C(x)=0 then 1/0 else 2;E=D(1):nil;");
+        LazyModules program = check.loaded(6, "A=if x=3 then A(3) else A(x+1)+1;B=A(x)*0;C=try B(x) else 0;"
+            + "D=if C(x)=0 then 1/0 else 2;E=D(1):nil;");
         for (int f = 0; f < 4; f++) {
             for (int x = 0; x < 4; x++) {
                 check.cell(program, f, x, LOOP, 0);
@@ -367,7 +372,8 @@ public final class BoundaryMeaningTest {
 
     private static void notRestingOnLoops() {
         check.sentence("(so that the rules alone give none)");
-        LazyModules program = check.loaded(6, "A=if x=0 then 0 else A(x-1)+x;B=if x<5 then B(x+1)*2 else 1;C=if x%2=0 then D(x) else 1;D=C(x+1);");
+        LazyModules program = check.loaded(6, "A=if x=0 then 0 else A(x-1)+x;B=if x<5 then B(x+1)*2 else 1;"
+            + "C=if x%2=0 then D(x) else 1;D=C(x+1);");
         int sum = 0;
         for (int x = 0; x < 6; x++) {
             sum += x;
@@ -405,6 +411,16 @@ public final class BoundaryMeaningTest {
 
     private static void clash(String text, int place) {
         check.refused(text, LazyModules.CLASH, place);
+    }
+
+    private static void kindsOfBranches() {
+        check.sentence("if has the kind of the expression after then; try that of its first expression");
+        clash("A=1+(if yes then nil else 1);", 3);
+        clash("A=1+(if yes then 1 else nil);", 5);
+        clash("A=1+(try nil else 1);", 3);
+        clash("A=1+(try 1 else nil);", 5);
+        clash("A=!(if yes then yes else if no then 1 else 2);", 4);
+        clash("A=!(try yes else if no then 1 else 2);", 4);
     }
 
     private static void demandsOfArithmetic() {

@@ -225,6 +225,14 @@ public final class BoundaryTextTest {
         check.refused("A=" + "1:".repeat(99), SYNTAX, 200);
         check.refused("A=" + "try ".repeat(49) + "  ", SYNTAX, 200);
         check.refused("A=;" + ";".repeat(197), SYNTAX, 2);
+        LazyModules program = new LazyModules(2);
+        check.put(program, "A=" + "(1+".repeat(66));
+        for (int i = 0; i < 100; i++) {
+            check.due("load of open brackets", program.load(), SYNTAX);
+        }
+        check.due("wipe", program.wipe(), 200);
+        check.load(program, "A=(2+(3+x));");
+        check.cell(program, 0, 1, DONE, 6);
     }
 
     private static void groupingToTheLeft() {
