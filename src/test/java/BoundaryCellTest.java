@@ -27,6 +27,7 @@ public final class BoundaryCellTest {
         kindInEveryChoice();
         kindWhereChoicesDiffer();
         removing();
+        removingWhatWasCalled();
         unloadOutside();
         unloadOfWhatIsCalled();
         unloadOfWhatCallsItself();
@@ -130,6 +131,21 @@ public final class BoundaryCellTest {
         check.due("wipe", program.wipe(), 1);
         check.load(program, "C=7;");
         check.cell(program, 2, 0, DONE, 7);
+    }
+
+    /** A function whose earlier def called the removed one. */
+    private static void removingWhatWasCalled() {
+        check.sentence("Removes function f");
+        LazyModules program = check.loaded(3, "A=x;B=A(x);C=A(A(x))+0;");
+        check.due("unload(0) while it is called", program.unload(0), false);
+        check.load(program, "B=x;C=x;");
+        check.due("unload(0)", program.unload(0), true);
+        check.load(program, "D=B(x)+C(x);");
+        for (int x = 0; x < 3; x++) {
+            check.cell(program, 1, x, DONE, x);
+            check.cell(program, 2, x, DONE, x);
+            check.cell(program, 3, x, DONE, 2 * x);
+        }
     }
 
     private static void unloadOutside() {

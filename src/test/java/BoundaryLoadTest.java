@@ -353,6 +353,9 @@ public final class BoundaryLoadTest {
         }
         check.refused(" ".repeat(200), SYNTAX, 200);
         check.refused("A=x;B" + " ".repeat(195), SYNTAX, 200);
+        for (String last : new String[] {"7", "123456789", "x", "nil", "B", "if", "hd", "(", "-", "1+", "x:"}) {
+            check.refused("A=" + " ".repeat(198 - last.length()) + last, SYNTAX, 200);
+        }
         check.loaded(2, module);
     }
 
