@@ -307,7 +307,10 @@ public final class LazyModules {
         return (f * NODE_LIMIT + size[f] - 1) * WIDEST + x;
     }
 
-    /** The cell of the first (0) or second (1) part of the list with two parts that stands in a cell. */
+    /**
+     * The cell of the first (0) or second (1) part of the list with two parts that stands in a cell. Only cells of kind
+     * LIST come here, and load() has seen to it that such a cell holds nothing but what a ':' gave.
+     */
     private int partOfList(int cell, int which) {
         int link = (int) (result[cell] - 1);
         return part[link / WIDEST * PARTS + which] * WIDEST + link % WIDEST;
@@ -419,6 +422,7 @@ public final class LazyModules {
     }
 
     // ---- Parsing: frames wait for operands, and each node is added after its parts ----
+    // A token opens at most one frame and stands for at most one node, so the counts never pass TEXT_LIMIT.
 
     private int parse() {
         nodeEnd = LOADED;
@@ -934,6 +938,7 @@ public final class LazyModules {
             status[cell] = RANGE;
             return;
         }
+        // A function that is called is defined: UNKNOWN and unload() see to that.
         int from = cellOf(f, (int) argument);
         copy(cell, from);
     }

@@ -1,7 +1,5 @@
 import com.sun.source.tree.AssertTree;
 import com.sun.source.tree.ClassTree;
-import com.sun.source.tree.CompilationUnitTree;
-import com.sun.source.tree.EnhancedForLoopTree;
 import com.sun.source.tree.ExpressionTree;
 import com.sun.source.tree.IdentifierTree;
 import com.sun.source.tree.InstanceOfTree;
@@ -18,23 +16,15 @@ import com.sun.source.tree.ThrowTree;
 import com.sun.source.tree.Tree;
 import com.sun.source.tree.TryTree;
 import com.sun.source.tree.VariableTree;
-import com.sun.source.util.JavacTask;
-import com.sun.source.util.SourcePositions;
 import com.sun.source.util.TreeScanner;
-import com.sun.source.util.Trees;
 import java.io.IOException;
-import java.nio.file.Path;
 import java.util.HashMap;
-import java.util.List;
 import java.util.Map;
 import java.util.Set;
 import java.util.TreeSet;
 import javax.lang.model.element.Modifier;
-import javax.tools.JavaCompiler;
-import javax.tools.StandardJavaFileManager;
-import javax.tools.ToolProvider;
 
-/** The rules of LANGUAGE.md, as far as they can be read off the program's text. */
+/** The rules of LANGUAGE.md, as far as they can be read off the program's text; for loops and divisors see LoopTest. */
 public final class LanguageTest extends TreeScanner<Void, Void> {
     private static final Set<String> TYPES = Set.of("int", "long", "short", "byte", "char", "boolean", "void",
         "int[]", "long[]", "short[]", "byte[]", "char[]", "boolean[]");
@@ -46,29 +36,25 @@ public final class LanguageTest extends TreeScanner<Void, Void> {
     private final Check check = new Check();
     private final Map<String, Set<String>> calls = new HashMap<>();
     private final Set<String> names = new TreeSet<>();
-    private SourcePositions positions;
-    private CompilationUnitTree unit;
+    private final ProgramText text;
     private String method = "";
     private int fields = 0;
     private int classes = 0;
     private boolean inArguments = false;
 
     public static void main(String[] args) throws IOException {
-        new LanguageTest().run();
+        new LanguageTest(new ProgramText()).run();
     }
 
-    private void run() throws IOException {
-        JavaCompiler compiler = ToolProvider.getSystemJavaCompiler();
-        try (StandardJavaFileManager files = compiler.getStandardFileManager(null, null, null)) {
-            var sources = files.getJavaFileObjects(Path.of("src/main/java/LazyModules.java"));
-            JavacTask task = (JavacTask) compiler.getTask(null, files, null, List.of("-proc:none"), null, sources);
-            unit = task.parse().iterator().next();
-            positions = Trees.instance(task).getSourcePositions();
-            scan(unit, null);
-        }
+    private LanguageTest(ProgramText text) {
+        this.text = text;
+    }
+
+    private void run() {
+        scan(text.unit(), null);
         rule(1, "one class", classes == 1);
-        rule(1, "no package", unit.getPackageName() == null);
-        rule(3, "no import", unit.getImports().isEmpty());
+        rule(1, "no package", text.unit().getPackageName() == null);
+        rule(3, "no import", text.unit().getImports().isEmpty());
         rule(10, "forty fields", fields <= 40);
         for (String name : calls.keySet()) {
             rule(10, "calls from " + name + " six deep and without recursion", depth(name, 0) <= 6);
@@ -84,11 +70,7 @@ public final class LanguageTest extends TreeScanner<Void, Void> {
     }
 
     private void never(int number, Tree tree) {
-        rule(number, "line " + line(positions.getStartPosition(unit, tree)) + ": " + tree.getKind(), false);
-    }
-
-    private long line(long position) {
-        return unit.getLineMap().getLineNumber(position);
+        rule(number, "line " + text.firstLine(tree) + ": " + tree.getKind(), false);
     }
 
     /** Ends beyond the limit, also where calls go round in a circle. */
@@ -141,7 +123,7 @@ public final class LanguageTest extends TreeScanner<Void, Void> {
         rule(1, method + " is seen as it must be", tree.getModifiers().getFlags().contains(face ? Modifier.PUBLIC : Modifier.PRIVATE));
         rule(4, method + " answers no array", tree.getReturnType() == null || !tree.getReturnType().toString().endsWith("]"));
         rule(10, method + " takes seven parameters at most", tree.getParameters().size() <= 7);
-        long lines = line(positions.getEndPosition(unit, tree)) - line(positions.getStartPosition(unit, tree)) + 1;
+        long lines = text.lastLine(tree) - text.firstLine(tree) + 1;
         rule(10, method + " is short", lines <= 60);
         calls.computeIfAbsent(method, m -> new TreeSet<>());
         super.visitMethod(tree, nothing);
@@ -239,11 +221,5 @@ public final class LanguageTest extends TreeScanner<Void, Void> {
     public Void visitMemberReference(MemberReferenceTree tree, Void nothing) {
         never(6, tree);
         return super.visitMemberReference(tree, nothing);
-    }
-
-    @Override
-    public Void visitEnhancedForLoop(EnhancedForLoopTree tree, Void nothing) {
-        never(8, tree);
-        return super.visitEnhancedForLoop(tree, nothing);
     }
 }

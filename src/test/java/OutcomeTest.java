@@ -18,6 +18,7 @@ public final class OutcomeTest {
         lists();
         calls();
         loops();
+        exampleOfReadme();
         check.end();
     }
 
@@ -180,5 +181,11 @@ public final class OutcomeTest {
         check.outcome("A(A(x))", 0, LOOP, 0);
         check.outcome("tl(A(x))", 0, LOOP, 0);
         check.outcome("hd(1:tl(2:nil))+A(7)", 0, RANGE, 0);
+    }
+
+    private static void exampleOfReadme() {
+        LazyModules program = check.loaded(6, "A=if x<1 then 1 else A(x-1)*x;B=x:B(x+1);");
+        check.cell(program, 0, 5, DONE, 120);
+        check.due("the third element of B(3)", program.itemValue(1, 3, 2), 5);
     }
 }
